@@ -114,6 +114,12 @@ public final class DaysTest {
         CHECK.equal("39: the other one", 2, v.bestToFeed());
         v.feedStray(2);
         CHECK.equal("39: no coin", -1, v.bestToFeed());
+        MarkShelter u = Check.taught("coins 9; stray a is dash on 0; feed a when day=1;");
+        CHECK.equal("39: fed now it is gone behind 10 days", -1, u.bestToFeed());
+        MarkShelter t = Check.taught("coins 9; stray a is dash on 0; feed a when day=2;");
+        CHECK.equal("39: fed now it is gone behind 11 days", 0, t.bestToFeed());
+        t.feedStray(0);
+        CHECK.equal("37: gone behind 11 days", 11, t.daysUntilGone(0));
         CHECK.equal("39: adopted", 2, v.adoptedAfter(10));
     }
 

@@ -85,6 +85,25 @@ public final class LanguageTest {
         CHECK.equal("4: no orders any more", 0, x.ordersCarriedOut());
         CHECK.equal("4: nothing is a book", 0, x.teach());
         CHECK.equal("4: without strays", 0, x.strays());
+        forgetsTheLastBook();
+    }
+
+    private static void forgetsTheLastBook() {
+        MarkShelter x = Check.taught("stray a is dash on 0; stray b is dash on 0; house a; feed b;");
+        x.passDays(6);
+        Check.write(x, "stray a is stop on 0; feed a; feed a; feed b;");
+        CHECK.equal("4: teach", 3, x.teach());
+        Check.write(x, "stray a is quote on 2; stray b is dash on 0;");
+        CHECK.equal("4: teach", 0, x.teach());
+        CHECK.equal("4: a is to come again", false, x.isHere(0));
+        CHECK.equal("4: a is not gone", false, x.isGone(0));
+        CHECK.equal("4: a is in no house", false, x.isHoused(0));
+        CHECK.equal("4: all room is free", 6, x.room());
+        CHECK.equal("4: b is as hungry as at first", 4, x.hungerOf(1));
+        CHECK.equal("4: b is as wild as at first", 8, x.wildnessOf(1));
+        x.passDays(2);
+        CHECK.equal("4: a comes as hungry as all", 4, x.hungerOf(0));
+        CHECK.equal("4: nothing is left of the wrong book", 0, x.ordersCarriedOut());
     }
 
     private static void tellsWhereTheErrorIs() {
@@ -179,6 +198,8 @@ public final class LanguageTest {
         test("hunger of=1", 1, "hunger of");
         test("hunger of day=1", 1, "hunger of ");
         test("min 1=1", 1, "min ");
+        test("min-1=1", 1, "min");
+        test("max<1", 1, "max");
         test("min(1)=1", 1, "min(1");
         test("min(1,2,3)=1", 1, "min(1,2");
         test("min(1,2=1", 1, "min(1,2");

@@ -22,6 +22,8 @@ public final class PlanTest {
 
     private static void reckonsSums() {
         test("1+2*3=7", true);
+        test("0+2*3=6", true);
+        test("0*3=0", true);
         test("(1+2)*3=9", true);
         test("10-3-2=5", true);
         test("100/5/2=10", true);
@@ -43,6 +45,8 @@ public final class PlanTest {
         test("32768*65536/-1=32768*65536", true);
         test("32768*65536-1>0", true);
         test("min(3,4)=3 and min(4,3)=3 and max(3,4)=4 and max(4,3)=4", true);
+        test("min(0,3)=0", true);
+        test("max(0,3)=3", true);
         test("min(-3,2)=-3 and max(-3,2)=2", true);
         test("1<2 and not 2<2 and not 3<2", true);
         test("3>2 and not 2>2 and not 1>2", true);

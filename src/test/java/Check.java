@@ -1,5 +1,7 @@
 import java.nio.charset.StandardCharsets;
+import java.util.ArrayList;
 import java.util.Arrays;
+import java.util.List;
 
 /** What all tests use: comparing answers, and writing a text on the tape. */
 final class Check {
@@ -74,6 +76,22 @@ final class Check {
 
     private static int number(byte[] row, int i) {
         return row[i] << 24 | (row[i + 1] & 255) << 16 | (row[i + 2] & 255) << 8 | row[i + 3] & 255;
+    }
+
+    /** What a machine answers to all calls that change nothing and take no number but a stray or a house. */
+    static List<Object> everything(MarkShelter x) {
+        List<Object> all = new ArrayList<>(List.of(x.errorAt(), x.strays(), x.houses(), x.coins(), x.day(),
+            x.ordersCarriedOut(), x.here(), x.adopted(), x.gone(), x.room(), x.hungriest(), x.bestToFeed(),
+            x.meanHunger(), x.digest()));
+        for (int i = 0; i < x.strays(); i++) {
+            all.addAll(List.of(x.kindOf(i), x.dayOf(i), x.isHere(i), x.isAdopted(i), x.isGone(i), x.isHoused(i),
+                x.isPaired(i), x.isReady(i), x.isHere(i) ? x.hungerOf(i) : -1, x.isHere(i) ? x.wildnessOf(i) : -1,
+                x.isHoused(i) ? x.houseOf(i) : -1, x.daysUntilGone(i), x.daysUntilAdopted(i)));
+        }
+        for (int i = 0; i < x.houses(); i++) {
+            all.add(x.straysIn(i));
+        }
+        return all;
     }
 
     static MarkShelter taught(String text) {

@@ -159,12 +159,14 @@ public final class DaysTest {
 
     private static void digests() {
         CHECK.equal("41: a new object", digestOf(new MarkShelter()), new MarkShelter().digest());
-        MarkShelter x = Check.taught("houses 4; coins 9;" + STOPS + "stray d is quote on 0;"
-            + "stray e is quote on 1; stray f is comma on 7; house d; train d; train d; house e; feed f;");
         for (int i = 0; i < 10; i++) {
+            MarkShelter x = Check.taught("houses 4; coins 9;" + STOPS + "stray d is quote on 0;"
+                + "stray e is quote on 1; stray f is comma on 7; house d; train d; train d; house e; feed f;");
+            if (i > 0) {
+                x.passDays(i);
+            }
             CHECK.equal("41: digest in day " + i, digestOf(x), x.digest());
             CHECK.equal("41: nothing is changed", digestOf(x), x.digest());
-            x.passDays(1);
         }
     }
 }

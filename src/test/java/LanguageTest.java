@@ -7,6 +7,7 @@ public final class LanguageTest {
         feeds();
         trims();
         teachesAnew();
+        readsOneBookAfterTheOther();
         tellsWhereTheErrorIs();
         readsTokens();
         readsBooks();
@@ -86,13 +87,13 @@ public final class LanguageTest {
         CHECK.equal("4: nothing is a book", 0, x.teach());
         CHECK.equal("4: without strays", 0, x.strays());
         forgetsTheLastBook();
+        forgetsWrongBooks();
     }
 
     private static void forgetsTheLastBook() {
         MarkShelter x = Check.taught("stray a is dash on 0; stray b is dash on 0; house a; feed b;");
-        x.passDays(6);
-        Check.write(x, "stray a is stop on 0; feed a; feed a; feed b;");
-        CHECK.equal("4: teach", 3, x.teach());
+        x.passDays(3);
+        CHECK.equal("4: a is in a house", true, x.isHoused(0));
         Check.write(x, "stray a is quote on 2; stray b is dash on 0;");
         CHECK.equal("4: teach", 0, x.teach());
         CHECK.equal("4: a is to come again", false, x.isHere(0));
@@ -103,7 +104,34 @@ public final class LanguageTest {
         CHECK.equal("4: b is as wild as at first", 8, x.wildnessOf(1));
         x.passDays(2);
         CHECK.equal("4: a comes as hungry as all", 4, x.hungerOf(0));
-        CHECK.equal("4: nothing is left of the wrong book", 0, x.ordersCarriedOut());
+        CHECK.equal("4: no orders any more", 0, x.ordersCarriedOut());
+    }
+
+    private static void forgetsWrongBooks() {
+        MarkShelter x = Check.taught("houses 2; coins 30;");
+        Check.write(x, "houses 5; coins 50; stray a is stop on 0; feed a; house a; offer a; feed b;");
+        CHECK.equal("4: teach", 3, x.teach());
+        Check.write(x, "stray a is stop on 0; stray b is stop on 0;");
+        CHECK.equal("4: teach", 0, x.teach());
+        CHECK.equal("4: houses of no wrong book", 3, x.houses());
+        CHECK.equal("4: coins of no wrong book", 20, x.coins());
+        CHECK.equal("4: strays of no wrong book", 2, x.strays());
+        x.passDays(1);
+        CHECK.equal("4: orders of no wrong book", 0, x.ordersCarriedOut());
+        CHECK.equal("4: adopted by no wrong book", 0, x.adopted());
+    }
+
+    /** Twelve books with some 380 tokens of a test each, right and wrong ones. */
+    private static void readsOneBookAfterTheOther() {
+        MarkShelter x = new MarkShelter();
+        for (int i = 0; i < 12; i++) {
+            String test = "0" + times(150, "+1") + times(30, "-1") + "=" + (i % 3 == 0 ? 121 : 120);
+            Check.write(x, A + "train a when " + test + "; offer " + (i % 4 == 3 ? "b;" : "a;"));
+            CHECK.equal("4: teach " + i, i % 4 == 3 ? 3 : 0, x.teach());
+            if (i % 4 != 3) {
+                CHECK.equal("4: book " + i, i % 3 == 0 ? 0 : 1, x.passDays(1));
+            }
+        }
     }
 
     private static void tellsWhereTheErrorIs() {

@@ -567,7 +567,8 @@ public final class MarkShelter {
             book.clear();
             error = 0;
             errorPosition = -1;
-            goTo(0);
+            index = -1;
+            advance();
             readBeginning();
             for (int i = 0; i < MOST_TOKENS && sign != Sign.END && error != 1; i++) {
                 if (sign == Sign.STRAY) {
@@ -797,17 +798,12 @@ public final class MarkShelter {
 
         /** Behind an error 1 the sign stays BAD, so that nothing more is read. */
         private void advance() {
-            if (error != 1) {
-                goTo(index + 1);
-            }
-        }
-
-        private void goTo(int wanted) {
-            if (wanted >= 0 && wanted < tokens.count && wanted <= MOST_TOKENS) {
-                index = wanted;
-                sign = tokens.signs[wanted];
-                position = tokens.positions[wanted];
-                worth = tokens.worths[wanted];
+            int next = index + 1;
+            if (error != 1 && next >= 0 && next < tokens.count && next <= MOST_TOKENS) {
+                index = next;
+                sign = tokens.signs[next];
+                position = tokens.positions[next];
+                worth = tokens.worths[next];
             }
         }
 

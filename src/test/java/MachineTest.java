@@ -6,6 +6,7 @@ public final class MachineTest {
         isNew();
         countsAsItGoes();
         countsRoom();
+        isApartFromOthers();
         CHECK.end();
     }
 
@@ -80,5 +81,33 @@ public final class MachineTest {
         x.feedStray(1);
         x.offer(1);
         CHECK.equal("14: the stop is adopted from it", 2, x.room());
+    }
+
+    /** Two machines in turns answer what each of them answers alone. */
+    private static void isApartFromOthers() {
+        String[] books = {
+            "houses 2; coins 9; stray a is stop on 0; stray b is quote on 1; house a; feed b; offer a when day = 2;",
+            "coins 3; stray c is dash on 0; train c; house c when wild of c < 5; feed c when room < 6;",
+        };
+        MarkShelter[] inTurns = {new MarkShelter(), new MarkShelter()};
+        for (int i = 0; i < 2; i++) {
+            Check.write(inTurns[i], books[i]);
+        }
+        for (int i = 0; i < 2; i++) {
+            CHECK.equal("1: teach in turns", 0, inTurns[i].teach());
+        }
+        for (int days = 1; days <= 6; days++) {
+            for (int i = 0; i < 2; i++) {
+                inTurns[i].passDays(1);
+            }
+            for (int i = 0; i < 2; i++) {
+                MarkShelter alone = Check.taught(books[i]);
+                alone.passDays(days);
+                CHECK.equal("1: machine " + i + " in day " + days, Check.everything(alone), Check.everything(inTurns[i]));
+            }
+        }
+        MarkShelter another = new MarkShelter();
+        CHECK.equal("1: another new one is new", Check.everything(new MarkShelter()), Check.everything(another));
+        CHECK.equal("1: without strays", 0, another.strays());
     }
 }
